@@ -147,6 +147,8 @@ public final class ReadBackTest {
         spillsOf("01", "\"", 0, 2, "\"1\\", "$2");
         spillsOf("00", "x", 0, 0, "\"1\\");
         spillsOf("00", "x", 1, 2, "\"1\\");
+        // another text of the same length
+        spillsOf("012", "\"32", 2, 1, "%1\"", "$1'%\"", "-1\"");
         // the layers of one kind mask at the other place
         spillsOf("00", "\\\\", 0, 1, "-1\\");
         spillsOf("00", "\\\\", 1, 1, "-1\\");
@@ -249,6 +251,14 @@ public final class ReadBackTest {
         twiceOf("00000", TWELVE_MARKS, 2, QuotedLayers.LONG, "'2");
         twiceOf("0000", TWELVE_MARKS, 3, QuotedLayers.LONG, "'2");
         twiceOf("000", TWELVE_MARKS, 0, 1, "'2");
+        // another text of the same length
+        twiceOf("012", "'", 2, 1, "\"1$", "-1'%", "-1$'%");
+        // asked again, and behind a call that goes through five layers
+        QuotedLayers q = Check.made("00001", "<", "-3%<", "\"1\\<");
+        CHECK.due("behind 5", q.behind(5, -1), 11);
+        CHECK.due("twice at 4", q.twice(4), 1);
+        CHECK.due("twice at 0", q.twice(0), 1);
+        CHECK.due("twice at 4 again", q.twice(4), 1);
         // five layers and one more: the second layer masks what the first one's numbers stand in
         twiceOf("12340", "<", 0, 1, "-3%<", "-1<", "-0", "-0", "-0");
         twiceOf("12340", "<", 1, 0, "-3%<", "-1<", "-0", "-0", "-0");

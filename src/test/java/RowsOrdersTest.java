@@ -88,6 +88,10 @@ public final class RowsOrdersTest {
         q = Check.made("1", "x<", "-3%<", "-0<");
         CHECK.due("all are barred", q.order(-1), QuotedLayers.NONE);
         CHECK.due("all are barred, i-th", q.order(0), QuotedLayers.NONE);
+        q = Check.made("10", "x<", "-3%<", "-0<");
+        CHECK.due("an order is found", q.order(0), 1);
+        q.unchain();
+        CHECK.due("none is found behind that", q.order(0), QuotedLayers.NONE);
         q = Check.made("00000", "''''''''''''", "'2");
         CHECK.due("all are too long", q.order(-1), QuotedLayers.NONE);
         CHECK.due("all are too long, i-th", q.order(0), QuotedLayers.NONE);
