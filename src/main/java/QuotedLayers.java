@@ -378,7 +378,7 @@ public final class QuotedLayers {
         return number;
     }
 
-    /** Leaves the order in shortestPlaces, which stays empty if all are left out: how many signs, or NONE. */
+    /** Leaves the order in shortestPlaces, which stays empty if there is none: how many signs, or NONE. */
     private int findShortestOrder() {
         int shortest = NONE;
         shortestPlaces.clear();
@@ -386,7 +386,8 @@ public final class QuotedLayers {
         for (int k = 0; k < stand.chainLayers.size(); k++) {
             digits.add(k);
         }
-        boolean more = true;
+        // A chain without layers has no order, not one without places.
+        boolean more = digits.size() > 0;
         for (int tried = 0; more && tried < ORDERS_MOST; tried++) {
             int length = lengthInOrder(digits);
             if (length >= 0 && (shortest == NONE || length < shortest)) {

@@ -392,6 +392,9 @@ final class Model {
     }
 
     int order(int i) {
+        if (chain.isEmpty()) {
+            return NONE;
+        }
         List<Integer> left = new ArrayList<>();
         for (int k = 0; k < chain.size(); k++) {
             left.add(k);

@@ -6,6 +6,7 @@ public final class RowsOrdersTest {
         rows();
         rowsBounds();
         order();
+        orderOfNoLayers();
         orderLeftOut();
         image();
         imagesApart();
@@ -62,7 +63,6 @@ public final class RowsOrdersTest {
     }
 
     private static void order() {
-        CHECK.due("an empty chain leaves the text", Check.order(new QuotedLayers()), "1");
         CHECK.due("one layer", Check.order(Check.made("0", "x", "\"1\\")), "3 0");
         CHECK.due("of several the first", Check.order(Check.made("01", "x", "\"1\\", "'2")), "5 0 1");
         CHECK.due("one layer three times", Check.order(Check.made("000", "x", "-1\\")), "1 0 1 2");
@@ -80,6 +80,32 @@ public final class RowsOrdersTest {
         CHECK.due("order(greatest)", q.order(Integer.MAX_VALUE), QuotedLayers.NONE);
         CHECK.due("the chain stays", q.told(10), 4);
         CHECK.due("the chain stays to the end", q.told(14), 0);
+    }
+
+    private static void orderOfNoLayers() {
+        QuotedLayers q = new QuotedLayers();
+        noOrder("a new object", q);
+        Check.pad(q, "abc").text();
+        noOrder("another text", q);
+        q.image(0);
+        q.chain(3);
+        CHECK.due("a layer as at first", Check.order(q), "3 0");
+        q.unchain();
+        noOrder("unchained", q);
+        q.chain(0);
+        q.chain(1);
+        CHECK.due("two layers", Check.order(q), "3 0 1");
+        q.restore(0);
+        noOrder("restored", q);
+        Check.pad(q, "\"1\\").layer(0);
+        noOrder("layers told, none chained", q);
+    }
+
+    private static void noOrder(String when, QuotedLayers q) {
+        int[] asked = {-1, 0, 1, 4, 5, -2, Integer.MIN_VALUE, Integer.MAX_VALUE};
+        for (int i : asked) {
+            CHECK.due(when + ", order(" + i + ")", q.order(i), QuotedLayers.NONE);
+        }
     }
 
     private static void orderLeftOut() {
