@@ -491,8 +491,8 @@ public final class QuotedLayers {
 
         /** Whether the number stands at a place ahead of the end told. */
         boolean hasAhead(int number, int end) {
-            for (int i = 0; i < end && i < count; i++) {
-                if (at(i) == number) {
+            for (int i = 0; i < end && i < count && i < numbers.length; i++) {
+                if (numbers[i] == number) {
                     return true;
                 }
             }

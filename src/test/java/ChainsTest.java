@@ -1,4 +1,4 @@
-/** Promises 7 to 14. */
+/** Promises 7 to 14, with ordinary chains and texts. */
 public final class ChainsTest {
     private static final Check CHECK = new Check("ChainsTest");
     private static final String TWELVE_BACKSLASHES = "\\\\\\\\\\\\\\\\\\\\\\\\";
@@ -8,7 +8,6 @@ public final class ChainsTest {
         unchain();
         text();
         behind();
-        behindBounds();
         behindLong();
         barred();
         grows();
@@ -84,22 +83,6 @@ public final class ChainsTest {
         CHECK.due("way 2 twice", Check.behind(Check.made("00", "'", "'2"), 2), "''''''''''");
     }
 
-    private static void behindBounds() {
-        QuotedLayers q = Check.made("01", "ab", "\"1\\", "$0a");
-        CHECK.due("behind(-1, 0)", q.behind(-1, 0), QuotedLayers.OUTSIDE);
-        CHECK.due("behind(3, 0)", q.behind(3, 0), QuotedLayers.OUTSIDE);
-        CHECK.due("behind(1, -1)", q.behind(1, -1), 4);
-        CHECK.due("behind(1, 4)", q.behind(1, 4), QuotedLayers.NONE);
-        CHECK.due("behind(1, -2)", q.behind(1, -2), QuotedLayers.NONE);
-        CHECK.due("behind(1, least)", q.behind(1, Integer.MIN_VALUE), QuotedLayers.NONE);
-        CHECK.due("behind(1, greatest)", q.behind(1, Integer.MAX_VALUE), QuotedLayers.NONE);
-        q = Check.made("01", "xy", "\"1\\", "$0x");
-        CHECK.due("behind(2, -1) barred", q.behind(2, -1), QuotedLayers.NO);
-        CHECK.due("behind(2, 0) barred", q.behind(2, 0), QuotedLayers.NO);
-        CHECK.due("behind(2, -2) barred", q.behind(2, -2), QuotedLayers.NO);
-        CHECK.due("behind(1, -1) not yet barred", q.behind(1, -1), 4);
-    }
-
     private static void behindLong() {
         QuotedLayers q = Check.made("00001", TWELVE_BACKSLASHES, "-1\\", "$2");
         CHECK.due("192 and two marks", q.behind(5, -1), 194);
@@ -110,14 +93,6 @@ public final class ChainsTest {
         CHECK.due("the i-th of it", q.behind(5, 0), QuotedLayers.LONG);
         CHECK.due("i below -1 of it", q.behind(5, -2), QuotedLayers.LONG);
         CHECK.due("192 are told", q.behind(4, -1), 192);
-        q = Check.made("01123", "\\\\\\\\\\\\\\\\\\yyy", "\"1'\\", "-1\\'", "\"1\\", "-3%\\");
-        CHECK.due("just 400", q.behind(5, -1), 400);
-        CHECK.due("the last of 400", q.behind(5, 399), '"');
-        CHECK.due("no more than 400", q.behind(5, 400), QuotedLayers.NONE);
-        CHECK.due("400 are not barred", q.barred(), QuotedLayers.NONE);
-        q = Check.made("01022", "\\\\\\\\\\\\\\\\\\\\y", "-1\\'", "-1\\", "-3%\\");
-        CHECK.due("just 401", q.behind(5, -1), QuotedLayers.LONG);
-        CHECK.due("401 are too long", q.barred(), QuotedLayers.LONG);
         q = Check.made("00000", "''''''''''yy", "'2");
         CHECK.due("10 marks by way 2, 2 signs", q.behind(5, -1), 384);
         q = Check.made("00000", "'''''''''''", "'2");

@@ -1,6 +1,7 @@
 /** What the tests share: answers compared with what is due, and whole texts said at once. */
 final class Check {
     private final String test;
+    private String sentence = "";
     private int calls = 0;
     private int wrong = 0;
 
@@ -8,19 +9,24 @@ final class Check {
         this.test = test;
     }
 
+    /** What is due from here on is what this sentence of the document asks for. */
+    void sentence(String said) {
+        sentence = " (" + said + ")";
+    }
+
     void due(String call, long got, long want) {
-        calls++;
-        if (got != want) {
-            wrong++;
-            System.out.println(test + ": " + call + " answered " + got + ", due is " + want);
-        }
+        compare(call, "" + got, "" + want);
     }
 
     void due(String call, String got, String want) {
+        compare(call, "\"" + got + "\"", "\"" + want + "\"");
+    }
+
+    private void compare(String call, String got, String want) {
         calls++;
         if (!got.equals(want)) {
             wrong++;
-            System.out.println(test + ": " + call + " answered \"" + got + "\", due is \"" + want + "\"");
+            System.out.println(test + sentence + ": " + call + " answered " + got + ", due is " + want);
         }
     }
 
@@ -113,6 +119,30 @@ final class Check {
         StringBuilder b = new StringBuilder("" + size);
         for (int i = 0; q.order(i) >= 0; i++) {
             b.append(' ').append(q.order(i));
+        }
+        return b.toString();
+    }
+
+    static boolean isDigitToSixteen(char sign) {
+        return sign >= '0' && sign <= '9' || sign >= 'a' && sign <= 'f';
+    }
+
+    /** Numbers that are this one again if no more than their last bits are looked at. */
+    static int[] wrapped(int number) {
+        return new int[] {number + 256, number - 256, number + 65536, number - 65536, number + Integer.MIN_VALUE};
+    }
+
+    /** All that can be told of an object, its images and the signs of its pad too; it is changed by that. */
+    static String all(QuotedLayers q) {
+        StringBuilder b = new StringBuilder(state(q));
+        while (q.unchain() >= 0) {
+            b.append(' ');
+        }
+        for (int i = 0; i < q.told(0); i++) {
+            b.append(' ').append(q.read(i));
+        }
+        for (int n = 0; n < 2; n++) {
+            b.append(" image ").append(q.restore(n) == 1 ? state(q) : "not kept");
         }
         return b.toString();
     }

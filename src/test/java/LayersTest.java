@@ -1,63 +1,11 @@
-/** Promises 1 to 6. */
+/** Promises 4 to 6: layers told on the pad, with and without a fault. */
 public final class LayersTest {
     private static final Check CHECK = new Check("LayersTest");
 
     public static void main(String[] args) {
-        newObject();
-        say();
-        wipe();
         fault();
-        layer();
         about();
         CHECK.end();
-    }
-
-    private static void newObject() {
-        QuotedLayers q = new QuotedLayers();
-        for (int layer = 0; layer < 5; layer++) {
-            CHECK.due("new about(" + layer + ", 0)", q.about(layer, 0), QuotedLayers.NONE);
-            CHECK.due("new about(" + layer + ", 1)", q.about(layer, 1), 0);
-            for (int what = 2; what <= 8; what++) {
-                CHECK.due("new about(" + layer + ", " + what + ")", q.about(layer, what), QuotedLayers.NONE);
-            }
-        }
-        CHECK.due("new told(0)", q.told(0), 0);
-        CHECK.due("new told(1)", q.told(1), 1);
-        CHECK.due("new told(20)", q.told(20), 'x');
-        CHECK.due("new told(2)", q.told(2), 0);
-        CHECK.due("new told(10)", q.told(10), QuotedLayers.NONE);
-        CHECK.due("new restore(0)", q.restore(0), QuotedLayers.STATE);
-        CHECK.due("new restore(1)", q.restore(1), QuotedLayers.STATE);
-    }
-
-    private static void say() {
-        QuotedLayers q = new QuotedLayers();
-        CHECK.due("say(32)", q.say(32), QuotedLayers.OUTSIDE);
-        CHECK.due("say(127)", q.say(127), QuotedLayers.OUTSIDE);
-        CHECK.due("say(-1)", q.say(-1), QuotedLayers.OUTSIDE);
-        CHECK.due("say(least)", q.say(Integer.MIN_VALUE), QuotedLayers.OUTSIDE);
-        CHECK.due("say(greatest)", q.say(Integer.MAX_VALUE), QuotedLayers.OUTSIDE);
-        CHECK.due("say(33)", q.say(33), 1);
-        CHECK.due("say(126)", q.say(126), 2);
-        for (int i = 3; i <= 60; i++) {
-            CHECK.due("say no. " + i, q.say('y'), i);
-        }
-        CHECK.due("say no. 61", q.say('y'), QuotedLayers.FULL);
-        CHECK.due("say(32) on a full pad", q.say(32), QuotedLayers.OUTSIDE);
-        CHECK.due("told(0) when full", q.told(0), 60);
-        CHECK.due("the first sign said", q.read(0), 33);
-        CHECK.due("the second sign said", q.read(1), 126);
-        CHECK.due("the last sign said", q.read(59), 'y');
-    }
-
-    private static void wipe() {
-        QuotedLayers q = new QuotedLayers();
-        CHECK.due("wipe of nothing", q.wipe(), 0);
-        Check.pad(q, "abc");
-        CHECK.due("wipe of three", q.wipe(), 3);
-        CHECK.due("wipe again", q.wipe(), 0);
-        CHECK.due("told(0) when wiped", q.told(0), 0);
-        CHECK.due("say when wiped", q.say('z'), 1);
     }
 
     private static void faultOf(String told, int want) {
@@ -123,31 +71,6 @@ public final class LayersTest {
         faultOf("-3%ghijkl", none);
         faultOf("-3%ghijkl7", 9);
         faultOf("-0gg7", 3);
-    }
-
-    private static void layer() {
-        QuotedLayers q = new QuotedLayers();
-        Check.pad(q, "\"1\\<!");
-        CHECK.due("layer(5)", q.layer(5), QuotedLayers.UNKNOWN);
-        CHECK.due("layer(-1)", q.layer(-1), QuotedLayers.UNKNOWN);
-        CHECK.due("the pad stays", q.told(0), 5);
-        CHECK.due("layer(4)", q.layer(4), 2);
-        CHECK.due("the pad is empty", q.told(0), 0);
-        CHECK.due("layer(4) of an empty pad", q.layer(4), QuotedLayers.NO);
-        CHECK.due("layer(5) of an empty pad", q.layer(5), QuotedLayers.UNKNOWN);
-        Check.pad(q, "'2x");
-        CHECK.due("layer(4) with a fault", q.layer(4), QuotedLayers.NO);
-        CHECK.due("the pad stays", q.told(0), 3);
-        CHECK.due("the layer stays", q.about(4, 0), '"');
-        Check.pad(q, "'2");
-        CHECK.due("layer(4) anew", q.layer(4), 0);
-        CHECK.due("its mark", q.about(4, 0), '\'');
-        CHECK.due("no mask is left", q.about(4, 2), QuotedLayers.NONE);
-        CHECK.due("no held sign is left", q.about(4, 3), QuotedLayers.NONE);
-        Check.pad(q, "-0ghijkl");
-        CHECK.due("layer(0) of six held signs", q.layer(0), 6);
-        Check.pad(q, "-3%;");
-        CHECK.due("layer(1)", q.layer(1), 1);
     }
 
     private static void aboutAll(QuotedLayers q, int layer, int... want) {

@@ -1,4 +1,4 @@
-/** Promises 15 to 18. */
+/** Promises 15 to 18, with ordinary chains and texts. */
 public final class ReadBackTest {
     private static final Check CHECK = new Check("ReadBackTest");
     private static final String TWELVE_MARKS = "''''''''''''";
@@ -9,11 +9,9 @@ public final class ReadBackTest {
         readWayDoubled();
         readWayNumbered();
         readChains();
-        readBounds();
         spills();
         spillsRefused();
         spill();
-        spillBounds();
         twice();
         CHECK.end();
     }
@@ -107,27 +105,6 @@ public final class ReadBackTest {
         CHECK.due("the place is that in the layer's own text", Check.read(q, "$'\"%24$$&\"'$"), "2 at 6");
     }
 
-    private static void readBounds() {
-        QuotedLayers q = Check.made("0", "y", "\"1\\");
-        CHECK.due("read(-1) of an empty pad", q.read(-1), QuotedLayers.STATE);
-        CHECK.due("read(-9) of an empty pad", q.read(-9), QuotedLayers.STATE);
-        Check.pad(q, "\"xy\"");
-        CHECK.due("read(-1) that fits", q.read(-1), QuotedLayers.NONE);
-        CHECK.due("read(-2) that fits", q.read(-2), QuotedLayers.NONE);
-        CHECK.due("read(-3)", q.read(-3), 2);
-        CHECK.due("read(1)", q.read(1), 'y');
-        CHECK.due("read(2)", q.read(2), QuotedLayers.NONE);
-        CHECK.due("read(-4)", q.read(-4), QuotedLayers.NONE);
-        CHECK.due("read(least)", q.read(Integer.MIN_VALUE), QuotedLayers.NONE);
-        CHECK.due("read(greatest)", q.read(Integer.MAX_VALUE), QuotedLayers.NONE);
-        CHECK.due("the pad stays", q.told(0), 4);
-        Check.pad(q, "\"xy");
-        CHECK.due("read(-1) that does not", q.read(-1), 0);
-        CHECK.due("read(-2) that does not", q.read(-2), 3);
-        CHECK.due("read(-3) that does not", q.read(-3), QuotedLayers.NONE);
-        CHECK.due("read(0) that does not", q.read(0), QuotedLayers.NONE);
-    }
-
     private static void spillsOf(String chain, String text, int place, int want, String... layers) {
         CHECK.due(text + " by " + chain + " forgotten at " + place,
             Check.made(chain, text, layers).spills(place), want);
@@ -205,29 +182,6 @@ public final class ReadBackTest {
         spillOf("01", "x%", 1, "%", "-3%", "-3%");
         spillOf("10", "26%", 1, "%", "-3%", "-3%");
         spillOf("01", "x~", 1, "~", "-1\\~", "-1\\");
-    }
-
-    private static void spillBounds() {
-        QuotedLayers q = Check.made("0", "y", "\"1\\<");
-        CHECK.due("spill(1, 0)", q.spill(1, 0), QuotedLayers.OUTSIDE);
-        CHECK.due("spill(-1, 0)", q.spill(-1, 0), QuotedLayers.OUTSIDE);
-        CHECK.due("an empty pad", q.spill(0, 0), QuotedLayers.STATE);
-        Check.pad(q, "xyzwvu");
-        CHECK.due("six signs", q.spill(0, 0), QuotedLayers.STATE);
-        CHECK.due("six signs, OUTSIDE", q.spill(2, 0), QuotedLayers.OUTSIDE);
-        Check.pad(q, "xyx");
-        CHECK.due("two alike", q.spill(0, 0), QuotedLayers.STATE);
-        Check.pad(q, "xyzww");
-        CHECK.due("the last two alike", q.spill(0, 0), QuotedLayers.STATE);
-        Check.pad(q, "xyzw<");
-        CHECK.due("five unlike", q.spill(0, -1), 1);
-        CHECK.due("its sign", q.spill(0, 0), '<');
-        CHECK.due("no second", q.spill(0, 1), QuotedLayers.NONE);
-        CHECK.due("i below -1", q.spill(0, -2), QuotedLayers.NONE);
-        CHECK.due("i least", q.spill(0, Integer.MIN_VALUE), QuotedLayers.NONE);
-        CHECK.due("i greatest", q.spill(0, Integer.MAX_VALUE), QuotedLayers.NONE);
-        CHECK.due("the pad stays", q.told(0), 5);
-        CHECK.due("the text stays", q.told(20), 'y');
     }
 
     private static void twiceOf(String chain, String text, int place, int want, String... layers) {

